@@ -244,12 +244,13 @@ public final class KeyGroups {
         Group next = sender.pending;
         next.follow(now);
         changes.applyTo(next.tree);
-        sender.carrySecrets(next, terms);
         writeCommitHead(now);
         boolean hasPath = path || changes.needPath();
+        out.put(hasPath ? 1 : 0);
         int commitSecret = hasPath ? writePath(sender, next) : ZERO;
-        if (!hasPath) {
-            out.put(0);
+        sender.carrySecrets(next, terms);
+        if (hasPath) {
+            this.path.tellAll(next);
         }
         out.put(TERM + crypt.signWithContext(sender.secret, out, now));
         next.confirmed = crypt.confirmedHash(now.interim, out, out.size);
@@ -591,6 +592,7 @@ public final class KeyGroups {
     /** Puts a new path into the next tree and writes it: the commit secret. */
     private int writePath(Member sender, Group next) {
         int leafSecret = terms.name();
+        path.leafSecret = leafSecret;
         path.plan(next.tree, next.leaf, changes.added);
         int pathSecret = path.length > 0 ? terms.name() : leafSecret;
         for (int k = 0; k < path.length; k++) {
@@ -606,10 +608,6 @@ public final class KeyGroups {
         ownLeaf.parentHash = path.putInto(next.tree, next.leaf, crypt);
         crypt.signLeaf(ownLeaf, next.leaf, sender.secret);
         next.tree.putLeaf(next.leaf, ownLeaf);
-        sender.carrySecrets(next, terms);
-        next.secret[2 * next.leaf] = leafSecret;
-        path.tellSecrets(next, 0);
-        out.put(1);
         ownLeaf.writeTo(out, true);
         writePathNodes(next.tree);
         return path.length > 0 ? pathSecret : crypt.derived(leafSecret, LABEL_PATH);
@@ -2037,7 +2035,6 @@ public final class KeyGroups {
             size = 0;
             adds = 0;
             removed = 0;
-            added = 0;
         }
 
         void dropLast() {
@@ -2194,6 +2191,7 @@ public final class KeyGroups {
         final int[] keys = new int[MAX_DEPTH];
         final int[] secrets = new int[MAX_DEPTH];
         final int[] nodeSecrets = new int[MAX_DEPTH];
+        int leafSecret;
         final int[] sealedFrom = new int[MAX_DEPTH + 1];
         final int[] sealedFor = new int[MAX_DEPTH * RESOLUTION_ROOM];
         final int[] resolution = new int[RESOLUTION_ROOM];
@@ -2254,6 +2252,12 @@ public final class KeyGroups {
                 }
             }
             return NONE;
+        }
+
+        /** Gives who made the path its secrets. */
+        void tellAll(Group group) {
+            group.secret[2 * group.leaf] = leafSecret;
+            tellSecrets(group, 0);
         }
 
         void tellSecrets(Group group, int start) {

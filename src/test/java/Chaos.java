@@ -528,6 +528,13 @@ final class Chaos {
             }
             p.compromise(old.member());
             List<Model.Counts> counts = m.counting(tree, at, new int[0]);
+            if (chance(30)) {
+                // Nodes above leaves that are blank: who commits never makes them, but they may be sound.
+                counts = new ArrayList<>();
+                for (int n : Model.way(tree, at)) {
+                    counts.add(new Model.Counts(n, Model.isBelow(at, Model.left(n)), List.of()));
+                }
+            }
             List<Model.T> keys = new ArrayList<>();
             for (int k = 0; k < counts.size(); k++) {
                 keys.add(m.pub(p.forgedName()));

@@ -84,6 +84,7 @@ public final class DeliverTest {
             List<Object> right = f.proposal(0, 1, Forger.remove(2));
             code("content 0", Forger.with(right, 7, 0), f, 0, 1);
             code("content 4", Forger.with(right, 7, 4), f, 0, 1);
+            code("content 4 of nothing", f.proposal(0, 1, Forger.signs(4)), f, 0, 1);
             code("tag and signature changed", Forger.with(right, -1, right.get(right.size() - 2)), f, 0, 1);
             List<Object> add = f.proposal(0, 1, Forger.add(f.pack(9)));
             code("a row that is too long", Forger.with(add, 9, 10), f, 0, 1);
@@ -125,6 +126,12 @@ public final class DeliverTest {
             code("a leaf at a place above", Forger.with(w, parentAt(w, tree + 2), 1), f, 9, 1);
             code("a node at a leaf's place", Forger.with(w, tree + 2, 2), f, 9, 1);
             code("u8 3", Forger.with(w, tree + 2, 3), f, 9, 1);
+        });
+        inGroup("trees that are none of these", f -> {
+            List<Object> w = welcome(f, false);
+            int tree = f.m.new Reading(w).welcome().infoStart() + 8;
+            code("a leaf of SOURCE 0", Forger.with(w, tree + 7, 0), f, 9, 1);
+            code("a leaf of SOURCE 4", Forger.with(w, tree + 7, 4), f, 9, 1);
             int unmerged = lastParent(w) + 3;
             code("an odd row of unmerged", Forger.with(w, unmerged + 1, 1), f, 9, 1);
             List<Object> fewer = new ArrayList<>(w);
@@ -311,6 +318,18 @@ public final class DeliverTest {
             code("a proposal that it has not", c, f, 0, 6);
             code("ahead of one that is wrong", f.commit(0, 2, Forger.join(Forger.byContent(Forger.remove(2)), byHash),
                     path), f, 0, 6);
+        });
+        inGroup("proposals that it has not, behind others", f -> {
+            int update = (int) f.p.propose(1, 2, 0);
+            List<Object> byHash = f.byHash(update);
+            List<Object> path = f.path(0, 2, List.of());
+            code("behind one by content", f.commit(0, 2, Forger.join(
+                    Forger.byContent(Forger.update(f.freshUpdate(2, 2))), byHash), path), f, 0, 6);
+        });
+        inGroup("proposals that come", f -> {
+            int update = (int) f.p.propose(1, 2, 0);
+            List<Object> byHash = f.byHash(update);
+            List<Object> c = f.commit(0, 2, byHash, f.path(0, 2, List.of()));
             E.is("it comes", f.p.deliver(update, 0), 0);
             code("now the path does not fit", c, f, 0, 8);
             code("with a path that fits", f.commit(0, 2, byHash, f.path(0, 2, byHash)), f, 0, 0);

@@ -525,6 +525,8 @@ public final class PromiseTest {
         int sign = termAt(x, w, x.message(w) - 1);
         E.is("9: signature of all of INFO", x.term(sign, 4), x.message(w) - 1 - 7);
         E.is("9: from the epoch on", x.ofTerm(sign, 3), 2);
+        E.is("9: by who commits", x.term(sign, 1), x.term(3, 1));
+        E.is("9: of nothing else", x.term(sign, 2) + x.term(sign, 3), 0);
         E.is("9: both join", x.deliver(w, 7) + x.deliver(w, 8), 0);
         E.is("9: at leaf 2", x.member(8, 2), 2);
         E.is("9: at leaf 3", x.member(7, 2), 3);
@@ -686,6 +688,7 @@ public final class PromiseTest {
             E.is("10: the same INTERIM", x.member(m, 6), x.member(0, 6));
         }
         int r = x.propose(0, 3, 1);
+        x.commit(1, true);
         x.deliver(r, 1);
         x.deliver(r, 2);
         int d = x.commit(2, true);
@@ -696,6 +699,8 @@ public final class PromiseTest {
         E.is("10: a blank leaf", x.node(0, 2, 0), 0);
         x.create(1);
         E.is("10: it may make a group", x.member(1, 1), 0);
+        E.is("10: where it has leaf 0", x.member(1, 2), 0);
+        E.is("10: alone", x.member(1, 3), 0);
     }
 
     private static void treeGrowsAndShrinks() {
