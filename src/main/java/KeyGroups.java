@@ -2033,8 +2033,6 @@ public final class KeyGroups {
 
         void clear() {
             size = 0;
-            adds = 0;
-            removed = 0;
         }
 
         void dropLast() {

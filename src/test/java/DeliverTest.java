@@ -58,6 +58,9 @@ public final class DeliverTest {
         welcomeTrees();
         welcomeSecrets();
         madeUpGroups();
+        madeUpTrees();
+        oddTrees();
+        fullGroups();
         keeping();
         E.finish();
     }
@@ -85,6 +88,7 @@ public final class DeliverTest {
             code("content 0", Forger.with(right, 7, 0), f, 0, 1);
             code("content 4", Forger.with(right, 7, 4), f, 0, 1);
             code("content 4 of nothing", f.proposal(0, 1, Forger.signs(4)), f, 0, 1);
+            code("a remove of nothing", f.proposal(0, 1, Forger.signs(3)), f, 0, 1);
             code("tag and signature changed", Forger.with(right, -1, right.get(right.size() - 2)), f, 0, 1);
             List<Object> add = f.proposal(0, 1, Forger.add(f.pack(9)));
             code("a row that is too long", Forger.with(add, 9, 10), f, 0, 1);
@@ -99,8 +103,13 @@ public final class DeliverTest {
     private static void unreadableCommits() {
         inGroup("commits that are none of these", f -> {
             List<Object> none = List.of();
-            List<Object> right = f.commit(0, 2, none, f.path(0, 2, none));
             code("entry 3", Forger.with(f.commit(0, 2, Forger.signs(3, 3, 0, 1), null), 9, 3), f, 0, 1);
+            code("entry 3 of nothing", f.commitEnd(0, f.commitHead(0, 2, Forger.signs(3), null)), f, 0, 1);
+            code("no path, but marked 2", Forger.with(f.commitEnd(0, f.commitHead(0, 2, none, null)), 9, 2), f, 0, 1);
+        });
+        inGroup("paths that are none of these", f -> {
+            List<Object> none = List.of();
+            List<Object> right = f.commit(0, 2, none, f.path(0, 2, none));
             code("a path marked 2", Forger.with(right, 9, 2), f, 0, 1);
             code("a path marked 0", Forger.with(right, 9, 0), f, 0, 1);
             code("a path of SOURCE 2", Forger.with(right, 14, 2), f, 0, 1);
@@ -129,9 +138,19 @@ public final class DeliverTest {
         });
         inGroup("trees that are none of these", f -> {
             List<Object> w = welcome(f, false);
+            int own = f.m.new Reading(w).welcome().infoStart() + 10;
+            while (!w.subList(own, own + 3).equals(List.of(1, 0, 9))) {
+                own++;
+            }
+            E.is("its leaf is found", (Integer) w.get(own + 5), 1);
+            E.is("a blank one is behind", (Integer) w.get(own + 7), 0);
+            code("a leaf of SOURCE 0", Forger.with(w, own + 5, 0), f, 9, 1);
+            code("a leaf of SOURCE 4", Forger.with(w, own + 5, 4), f, 9, 1);
+            code("a node of sort 3", Forger.with(w, own + 7, 3), f, 9, 1);
+        });
+        inGroup("rows of trees that are none of these", f -> {
+            List<Object> w = welcome(f, false);
             int tree = f.m.new Reading(w).welcome().infoStart() + 8;
-            code("a leaf of SOURCE 0", Forger.with(w, tree + 7, 0), f, 9, 1);
-            code("a leaf of SOURCE 4", Forger.with(w, tree + 7, 4), f, 9, 1);
             int unmerged = lastParent(w) + 3;
             code("an odd row of unmerged", Forger.with(w, unmerged + 1, 1), f, 9, 1);
             List<Object> fewer = new ArrayList<>(w);
@@ -144,14 +163,18 @@ public final class DeliverTest {
             int pack = (int) f.p.offer(9);
             Model.State st = f.state(0);
             Model.Node top = st.tree.nodes.get(5);
+            top.unmerged.add(14);
             top.unmerged.add(15);
             st.treeHash = f.m.topHash(st.tree);
             List<Object> w = f.m.welcomeSigns(joiner(f, 9, pack), st, 0, f.m.mac(f.m.zero, List.of()), f.secretOf(0));
             top.unmerged.clear();
-            int at = lastParent(w) + 6;
+            int at = lastParent(w) + 8;
             E.is("unmerged is found", (Integer) w.get(at), 15);
             code("leaf 15 among unmerged can be read", w, f, 9, 15);
             code("leaf 16 can't", Forger.with(w, at, 16), f, 9, 1);
+            code("nor can one twice", Forger.with(w, at, 14), f, 9, 1);
+            code("nor another order", Forger.with(w, at, 13), f, 9, 1);
+            code("nor a leaf far away", Forger.with(w, at - 1, 1), f, 9, 1);
         });
     }
 
@@ -251,6 +274,8 @@ public final class DeliverTest {
         inGroup("signatures", f -> {
             List<Object> pack = f.pack(9);
             code("of a package", Forger.with(pack, 8, f.m.signed(f.secretOf(8), pack.subList(0, 8))), f, 0, 4);
+            code("of other signs", Forger.with(pack, 8, f.m.signed(f.secretOf(9),
+                    Forger.with(pack.subList(0, 8), 0, 2))), f, 0, 4);
             code("of its leaf", f.m.packSigns(f.m.signatureKey[3], f.m.signLeaf(new Model.Leaf(9,
                     f.m.signatureKey[4], f.m.signatureKey[9], 1, null, null), 0, f.secretOf(8)),
                     f.secretOf(9)), f, 0, 4);
@@ -352,6 +377,13 @@ public final class DeliverTest {
         inGroup("wrong removes", f -> {
             wrong("a remove of a leaf beyond", f, Forger.byContent(Forger.remove(4)));
             wrong("a remove far beyond", f, Forger.byContent(Forger.remove(0x1001)));
+            List<Object> many = new ArrayList<>();
+            for (int k = 0; k < 40; k++) {
+                many.addAll(Forger.byContent(Forger.remove(1)));
+            }
+            wrong("forty removes of a leaf", f, many);
+        });
+        inGroup("two removes", f -> {
             wrong("two removes of a leaf", f, Forger.join(Forger.byContent(Forger.remove(1)),
                     Forger.byContent(Forger.remove(1))));
         });
@@ -396,6 +428,10 @@ public final class DeliverTest {
         inGroup("adds with keys that are there", f -> {
             wrong("a leaf has it", f, Forger.byContent(Forger.add(
                     f.pack(9, f.m.pub(f.p.forgedName()), f.state(0).tree.leaf(1).key()))));
+            wrong("leaf 0 has it", f, Forger.byContent(Forger.add(
+                    f.pack(9, f.m.pub(f.p.forgedName()), f.state(0).tree.leaf(0).key()))));
+        });
+        inGroup("two adds with one key", f -> {
             Model.T key = f.m.pub(f.p.forgedName());
             wrong("two adds with one key", f, Forger.join(
                     Forger.byContent(Forger.add(f.pack(9, f.m.pub(f.p.forgedName()), key))),
@@ -502,6 +538,8 @@ public final class DeliverTest {
             List<Object> none = List.of();
             code("a key that another leaf has", f.commit(0, 2, none, f.path(0, 2, none, SAME,
                     x -> x.leafKey = f.state(0).tree.leaf(1).key())), f, 0, 9);
+            code("a key that leaf 0 has", f.commit(0, 2, none, f.path(0, 2, none, SAME,
+                    x -> x.leafKey = f.state(0).tree.leaf(0).key())), f, 0, 9);
             code("a key that it has already", f.commit(0, 2, none, f.path(0, 2, none, SAME,
                     x -> x.leafKey = f.state(0).tree.leaf(2).key())), f, 0, 9);
             code("a key that a node has", f.commit(0, 2, none, f.path(0, 2, none, SAME,
@@ -540,6 +578,7 @@ public final class DeliverTest {
             code("what is in it is not one term", f.commit(0, 2, none, f.path(0, 2, none, SAME,
                     x -> x.sealed.get(1).set(0, two))), f, 0, 10);
         });
+        sealedForMany();
         inGroup("the first node of the resolution counts", f -> {
             int remove = (int) f.p.propose(3, 3, 2);
             f.p.deliver(remove, 0);
@@ -548,6 +587,31 @@ public final class DeliverTest {
             List<Object> none = List.of();
             code("sealed for the node above both", f.commit(0, 3, none, f.path(0, 3, none)), f, 0, 0);
         });
+    }
+
+    /** A group without nodes above, so that each leaf has a SEALED of its own. */
+    private static void sealedForMany() {
+        Forger f = new Forger(new Pair());
+        f.p.create(0);
+        for (int k = 1; k < 4; k++) {
+            f.join(k, 0, false);
+        }
+        f.compromiseAll();
+        List<Object> none = List.of();
+        E.is("two are sealed for the left half", f.p.node(1, 1, 4), 2);
+        Consumer<Forger.PathParts> firstIsWrong = x ->
+            x.sealed.get(1).set(0, f.m.sealed(f.m.signatureKey[0], f.p.forgedName()));
+        Consumer<Forger.PathParts> secondIsWrong = x ->
+            x.sealed.get(1).set(1, f.m.sealed(f.m.signatureKey[0], x.secrets.get(1)));
+        Consumer<Forger.PathParts> secondIsAnother = x ->
+            x.sealed.get(1).set(1, f.m.sealed(f.state(1).tree.leaf(1).key(), f.p.forgedName()));
+        Consumer<Forger.PathParts> secondIsForFirst = x -> x.sealed.get(1).set(1, x.sealed.get(1).get(0));
+        code("its own can't be opened", f.commit(1, 3, none, f.path(1, 3, none, SAME, secondIsWrong)), f, 1, 10);
+        code("its own is for another", f.commit(1, 3, none, f.path(1, 3, none, SAME, secondIsForFirst)), f, 1, 10);
+        code("its own is another secret", f.commit(1, 3, none, f.path(1, 3, none, SAME, secondIsAnother)), f, 1, 11);
+        code("another's can't be opened", f.commit(1, 3, none, f.path(1, 3, none, SAME, firstIsWrong)), f, 1, 0);
+        E.is("it has the top", f.p.node(1, 3, 5), 1);
+        E.is("and not what is below it", f.p.node(1, 1, 5), 0);
     }
 
     private static void keys() {
@@ -778,6 +842,149 @@ public final class DeliverTest {
         E.is("makes the tree small", f.p.member(9, 3), 1);
         E.is("and the epoch 0 again", f.p.member(9, 1), 0);
         f.p.lookAt(9);
+    }
+
+    /** A tree of four leaves, that of member 0 at a place with a path above, and of member 9 at leaf 2. */
+    private static Model.Tree oddTree(Forger f, int place, boolean all, Consumer<Model.Tree> before) {
+        Model.Tree t = new Model.Tree();
+        t.d = 2;
+        t.put(place, f.leaf(0, f.m.pub(f.p.forgedName()), 1, 0));
+        t.put(2, f.m.members[9].packs.get(0).pack().leaf());
+        before.accept(t);
+        List<Model.Counts> counts = new ArrayList<>();
+        for (int n : Model.way(t, place)) {
+            if (all || n == 3) {
+                counts.add(new Model.Counts(n, Model.isBelow(place, Model.left(n)), List.of()));
+            }
+        }
+        List<Model.T> keys = new ArrayList<>();
+        for (int k = 0; k < counts.size(); k++) {
+            keys.add(f.m.pub(f.p.forgedName()));
+        }
+        Model.T parentHash = f.m.putPath(t, place, counts, keys);
+        t.put(place, f.m.signLeaf(new Model.Leaf(0, f.m.pub(f.p.forgedName()), f.m.signatureKey[0], 3,
+                parentHash, null), place, f.secretOf(0)));
+        return t;
+    }
+
+    private static Forger withPackage() {
+        Forger f = new Forger(new Pair());
+        f.p.offer(9);
+        for (int k = 0; k < 3; k++) {
+            f.p.compromise(k);
+        }
+        return f;
+    }
+
+    private static void joinTree(String what, Forger f, Model.Tree t, int leaf, int want) {
+        Model.Own own = f.m.members[9].packs.get(0);
+        Model.State st = new Model.State();
+        st.tree = t;
+        Model.T joiner = f.p.forgedName();
+        Model.T confirmation = f.m.begin(st, joiner);
+        List<Object> joiners = Forger.signs(f.m.hash(own.pack().signs()), f.m.sealed(own.pack().init(), joiner));
+        code(what, f.m.welcomeSigns(joiners, st, leaf, confirmation, f.secretOf(0)), f, 9, want);
+    }
+
+    private static void odd(String what, int want, int place, boolean all, Consumer<Model.Tree> before,
+            Consumer<Model.Tree> then) {
+        Forger f = withPackage();
+        Model.Tree t = oddTree(f, place, all, before);
+        then.accept(t);
+        joinTree(what, f, t, place, want);
+    }
+
+
+    private static void madeUpTrees() {
+        Consumer<Model.Tree> same = t -> { };
+        odd("one leaf below", 0, 0, false, same, same);
+        odd("nodes above blank leaves", 0, 0, true, same, same);
+        odd("a blank leaf is unmerged", 15, 0, false, same, t -> t.nodes.get(3).unmerged.add(1));
+        odd("a leaf beyond is unmerged", 15, 0, false, same, t -> t.nodes.get(3).unmerged.add(4));
+        odd("its only leaf is unmerged", 15, 0, false, same, t -> t.nodes.get(3).unmerged.add(0));
+        odd("the parent hash of a leaf is missing", 15, 1, false, same, t -> {
+            Model.Leaf l = t.leaf(1);
+            t.put(1, new Model.Leaf(0, l.key(), l.signatureKey(), 1, null, l.signature()));
+        });
+        twoLeaves("a leaf that came later is unmerged", 0, 0, 1, true, 1, false);
+        twoLeaves("a leaf that came later is not unmerged", 15, 0, 1, false, 1, false);
+        twoLeaves("the leaf with the hash comes last", 15, 1, 0, false, 1, false);
+        twoLeaves("and the other is unmerged", 0, 1, 0, true, 1, false);
+        twoLeaves("another leaf of the same member", 15, 0, 1, true, 0, false);
+        twoLeaves("another leaf with the same key", 15, 0, 1, true, 1, true);
+    }
+
+    /** Member 0 with a path, and another leaf beside it that came later. */
+    private static void twoLeaves(String what, int want, int place, int later, boolean isUnmerged, int who,
+            boolean isSameKey) {
+        Forger f = withPackage();
+        Model.Tree t = oddTree(f, place, false, x -> { });
+        Model.T key = isSameKey ? t.leaf(place).key() : f.m.pub(f.p.forgedName());
+        t.put(later, f.leaf(who, key, 1, 0));
+        if (isUnmerged) {
+            t.nodes.get(3).unmerged.add(later);
+        }
+        joinTree(what, f, t, place, want);
+    }
+
+    private static void oddTrees() {
+        Forger f = withPackage();
+        Model.Leaf other = f.leaf(1, f.m.pub(f.p.forgedName()), 1, 0);
+        Model.Tree t = oddTree(f, 0, true, x -> x.put(1, other));
+        t.nodes.get(3).unmerged.add(1);
+        joinTree("unmerged above, but not between", f, t, 0, 15);
+        t.nodes.get(3).unmerged.clear();
+        joinTree("unmerged nowhere", f, t, 0, 0);
+
+        Forger g = withPackage();
+        joinTree("a node above a blank leaf", g, oddTree(g, 0, true, x -> { }), 0, 0);
+        int pack = (int) g.p.offer(5);
+        g.p.propose(9, 1, pack);
+        E.is("who joins", g.p.deliver((int) g.p.commit(9, false), 9), 0);
+        E.is("at leaf 1", g.p.node(9, 2, 3), 5);
+        E.is("is unmerged in the node of height 1", g.p.node(9, 1, 2), 1);
+        E.is("and in that above", g.p.node(9, 3, 2), 1);
+
+        Forger h = withPackage();
+        Model.Tree small = new Model.Tree();
+        small.d = 2;
+        small.put(0, h.leaf(0, h.m.pub(h.p.forgedName()), 1, 0));
+        small.put(1, h.m.members[9].packs.get(0).pack().leaf());
+        List<Model.Counts> counts = List.of(new Model.Counts(1, true, List.of()), new Model.Counts(3, true, List.of()));
+        List<Model.T> keys = List.of(h.m.pub(h.p.forgedName()), h.m.pub(h.p.forgedName()));
+        Model.T parentHash = h.m.putPath(small, 0, counts, keys);
+        small.put(0, h.m.signLeaf(new Model.Leaf(0, h.m.pub(h.p.forgedName()), h.m.signatureKey[0], 3,
+                parentHash, null), 0, h.secretOf(0)));
+        joinTree("a node above a blank half", h, small, 0, 0);
+        E.is("the top is there", h.p.node(9, 3, 0) > 0);
+        for (int who = 5; who < 7; who++) {
+            h.p.propose(9, 1, (int) h.p.offer(who));
+        }
+        E.is("the half goes and comes again", h.p.deliver((int) h.p.commit(9, false), 9), 0);
+        E.is("of four leaves", h.p.member(9, 3), 2);
+        E.is("with a blank top", h.p.node(9, 3, 0), 0);
+        E.is("and node 1 as it was", h.p.node(9, 1, 0) > 0);
+    }
+
+    private static void fullGroups() {
+        Forger f = new Forger(new Pair());
+        f.p.create(0);
+        f.p.create(20);
+        for (int k = 1; k < 16; k++) {
+            f.p.propose(0, 1, (int) f.p.offer(k));
+        }
+        int commit = (int) f.p.commit(0, true);
+        f.p.deliver(commit, 0);
+        f.p.deliver(commit + 1, 1);
+        f.p.compromise(1);
+        f.p.compromise(0);
+        E.is("sixteen leaves", f.p.member(1, 3), 4);
+        List<Object> right = f.proposal(1, 0, Forger.remove(16));
+        code("a remove of leaf 16 is kept", right, f, 1, 0);
+        code("leaf 16 sends", Forger.with(right, 6, 16), f, 1, 3);
+        code("leaf 0 removes leaf 16", f.commit(1, 0, Forger.byContent(Forger.remove(16)), null), f, 1, 7);
+        f.p.compromise(18);
+        code("leaf 0 adds one more", f.commit(1, 0, Forger.byContent(Forger.add(f.pack(18))), null), f, 1, 7);
     }
 
     private static void keeping() {

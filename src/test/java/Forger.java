@@ -202,12 +202,18 @@ final class Forger {
         return s;
     }
 
+    /** Puts some confirmation and a tag that is right for the reader behind. */
+    List<Object> commitEnd(int reader, List<Object> head) {
+        List<Object> s = new ArrayList<>(head);
+        s.add(m.mac(m.zero, List.of()));
+        s.add(m.mac(m.membership(state(reader)), s));
+        return s;
+    }
+
     /** Puts a confirmation that is right for the reader, if there is one, and a tag behind. */
     List<Object> commit(int reader, int leaf, List<Object> entries, List<Object> path) {
         List<Object> s = commitHead(reader, leaf, entries, path);
-        List<Object> tried = new ArrayList<>(s);
-        tried.add(m.mac(m.zero, List.of()));
-        tried.add(m.mac(m.membership(state(reader)), tried));
+        List<Object> tried = commitEnd(reader, s);
         makeKnown(tried);
         int code = m.take(tried, reader, true);
         s.add(code == 12 ? m.wantedConfirmation : m.mac(m.zero, List.of()));

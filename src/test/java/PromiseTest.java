@@ -21,10 +21,13 @@ public final class PromiseTest {
         commitWelcome();
         commitLeavesOut();
         commitFills();
+        commitMany();
         commitLimits();
         commitPending();
         deliver();
         deliverChanges();
+        leafZeroUnmerged();
+        updatesThatDoNotGo();
         treeGrowsAndShrinks();
         post();
         make();
@@ -282,6 +285,8 @@ public final class PromiseTest {
         signsOf(x, "7: leaf signature", leafSign, 0, 6, t(key), t(8), 1);
         signsOf(x, "7: signature", sign, 1, t(init), 0, 6, t(key), t(8), 1, t(leafSign));
         E.is("7: signed by the member", x.term(sign, 1), x.term(8, 1));
+        E.is("7: of nothing else", x.term(sign, 2) + x.term(sign, 3), 0);
+        E.is("7: the leaf's, too", x.term(leafSign, 2) + x.term(leafSign, 3), 0);
         E.is("7: kept", x.member(6, 10), 1);
         E.is("7: sent, so known", x.isKnown(sign) && x.isKnown(init) && x.isKnown(key));
         E.is("7: the secret is not", !x.isKnown(x.term(init, 1)));
@@ -339,6 +344,7 @@ public final class PromiseTest {
         signsOf(x, "8: tag", tag, 2, 0, 0, 0, 1, 0, 1, 3, 0, 15, t(sign));
         int membership = x.term(tag, 1);
         E.is("8: MEMBERSHIP key", x.term(membership, 2), 3);
+        E.is("8: the tag is of nothing else", x.term(tag, 2) + x.term(tag, 3), 0);
         E.is("8: of the EPOCH SECRET", x.term(membership, 1), x.member(1, 7));
         E.is("8: kept", x.member(1, 8), 3);
         E.is("8: the same again is another message", x.propose(1, 3, 15), remove + 1);
@@ -620,7 +626,35 @@ public final class PromiseTest {
         E.is("9: then the next", x.node(5, 6, 3), 21);
     }
 
+    private static void commitMany() {
+        KeyGroups x = group(2);
+        for (int m = 2; m < 16; m++) {
+            x.propose(0, 1, x.offer(m));
+        }
+        int c = x.commit(0, true);
+        E.is("9: a long commit", x.message(c), 9 + 14 * 13 + 1 + 7 + 2 + 4 * 3 + 1 + 3);
+        E.is("9: taken by who is there", x.deliver(c, 1), 0);
+        E.is("9: and by who made it", x.deliver(c, 0), 0);
+        for (int m = 2; m < 16; m++) {
+            E.is("9: all join", x.deliver(c + 1, m), 0);
+            E.is("9: in the same epoch", x.member(m, 7), x.member(0, 7));
+        }
+        E.is("9: leaf 1 knows all above", x.member(1, 12), 5);
+        E.is("9: leaf 15 knows the top", x.member(15, 12), 2);
+        E.is("9: leaf 2 knows three nodes above", x.member(2, 12), 4);
+        int d = x.commit(9, true);
+        for (int m = 0; m < 16; m++) {
+            E.is("9: a path from the other half", x.deliver(d, m), 0);
+        }
+        E.is("9: so all know the top", x.node(0, 15, 5) + x.node(15, 15, 5), 2);
+    }
+
     private static void commitLimits() {
+        KeyGroups y = group(2);
+        y.propose(0, 1, y.offer(7));
+        fillMessages(y, 298);
+        E.is("9: the last place for both", y.commit(0, false), 298);
+        E.is("9: both are there", y.count(1), 300);
         KeyGroups x = group(2);
         int p = x.offer(7);
         x.propose(0, 1, p);
@@ -701,6 +735,49 @@ public final class PromiseTest {
         E.is("10: it may make a group", x.member(1, 1), 0);
         E.is("10: where it has leaf 0", x.member(1, 2), 0);
         E.is("10: alone", x.member(1, 3), 0);
+        E.is("10: without a CONFIRMED hash", x.member(1, 5), 0);
+    }
+
+    private static void leafZeroUnmerged() {
+        KeyGroups x = group(3);
+        x.propose(2, 3, 0);
+        x.deliver(x.commit(2, true), 2);
+        x.propose(2, 1, x.offer(9));
+        int c = x.commit(2, false);
+        x.deliver(c, 2);
+        E.is("10: leaf 0 again", x.node(2, 0, 3), 9);
+        E.is("10: unmerged at the top", x.node(2, 3, 2), 1);
+        E.is("10: resolution", x.node(2, 3, 4), 2);
+        E.is("10: its tree is sound", x.deliver(c + 1, 9), 0);
+        int d = x.commit(2, true);
+        E.is("10: sealed for leaf 0", x.deliver(d, 9), 0);
+    }
+
+    private static void updatesThatDoNotGo() {
+        KeyGroups x = group(2);
+        int u = x.propose(1, 2, 0);
+        int updateSecret = x.term(termAt(x, u, 10), 1);
+        int leafSecret = x.term(x.node(1, 2, 0), 1);
+        E.is("10: an update that is not taken", x.deliver(x.commit(0, true), 1), 0);
+        x.compromise(1);
+        E.is("10: its secret is forgotten", !x.isKnown(updateSecret));
+        E.is("10: that of the leaf is kept", x.isKnown(leafSecret));
+        int v = x.propose(1, 2, 0);
+        int w = x.propose(1, 2, 0);
+        int second = x.term(termAt(x, w, 10), 1);
+        int first = x.term(termAt(x, v, 10), 1);
+        KeyGroups y = group(2);
+        int a = y.propose(1, 2, 0);
+        int b = y.propose(1, 2, 0);
+        int one = y.term(termAt(y, a, 10), 1);
+        int two = y.term(termAt(y, b, 10), 1);
+        y.deliver(a, 0);
+        E.is("10: the first one goes", y.deliver(y.commit(0, false), 1), 0);
+        y.compromise(1);
+        E.is("10: its secret is the leaf's", y.isKnown(one));
+        E.is("10: the other is forgotten", !y.isKnown(two));
+        x.compromise(1);
+        E.is("10: both are kept as long as they may go", x.isKnown(first) && x.isKnown(second));
     }
 
     private static void treeGrowsAndShrinks() {
