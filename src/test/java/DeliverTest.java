@@ -492,6 +492,15 @@ public final class DeliverTest {
             code("one sealed less", f.commit(0, 2, none, f.path(0, 2, none, SAME,
                     x -> x.sealed.get(1).remove(0))), f, 0, 8);
         });
+        inGroup("more nodes than a tree has", f -> {
+            List<Object> none = List.of();
+            code("six nodes", f.commit(0, 2, none, f.path(0, 2, none, SAME, x -> {
+                for (int k = 0; k < 4; k++) {
+                    x.keys.add(x.keys.get(0));
+                    x.sealed.add(List.of());
+                }
+            })), f, 0, 8);
+        });
         inGroup("one sealed more", f -> {
             List<Object> none = List.of();
             code("one sealed more", f.commit(0, 2, none, f.path(0, 2, none, SAME,
@@ -900,6 +909,7 @@ public final class DeliverTest {
         odd("one leaf below", 0, 0, false, same, same);
         odd("nodes above blank leaves", 0, 0, true, same, same);
         odd("a blank leaf is unmerged", 15, 0, false, same, t -> t.nodes.get(3).unmerged.add(1));
+        odd("leaf 0 is blank and unmerged", 15, 1, false, same, t -> t.nodes.get(3).unmerged.add(0));
         odd("a leaf beyond is unmerged", 15, 0, false, same, t -> t.nodes.get(3).unmerged.add(4));
         odd("its only leaf is unmerged", 15, 0, false, same, t -> t.nodes.get(3).unmerged.add(0));
         odd("the parent hash of a leaf is missing", 15, 1, false, same, t -> {
@@ -935,6 +945,20 @@ public final class DeliverTest {
         joinTree("unmerged above, but not between", f, t, 0, 15);
         t.nodes.get(3).unmerged.clear();
         joinTree("unmerged nowhere", f, t, 0, 0);
+
+        Forger k = withPackage();
+        Model.Tree blind = new Model.Tree();
+        blind.d = 2;
+        blind.put(1, k.m.members[9].packs.get(0).pack().leaf());
+        blind.put(2, k.leaf(1, k.m.pub(k.p.forgedName()), 1, 0));
+        Model.T blindHash = k.m.putPath(blind, 0, List.of(new Model.Counts(1, true, List.of()),
+                new Model.Counts(3, true, List.of())), List.of(k.m.pub(k.p.forgedName()), k.m.pub(k.p.forgedName())));
+        blind.put(0, k.m.signLeaf(new Model.Leaf(0, k.m.pub(k.p.forgedName()), k.m.signatureKey[0], 3,
+                blindHash, null), 0, k.secretOf(0)));
+        joinTree("below a node whose secret it was not told", k, blind, 0, 0);
+        E.is("of its leaf alone it has the secret", k.p.member(9, 12), 1);
+        k.p.compromise(9);
+        code("sealed for the node alone", k.commit(9, 2, List.of(), k.path(9, 2, List.of())), k, 9, 10);
 
         Forger g = withPackage();
         joinTree("a node above a blank leaf", g, oddTree(g, 0, true, x -> { }), 0, 0);
