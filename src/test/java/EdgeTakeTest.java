@@ -210,6 +210,12 @@ public final class EdgeTakeTest {
         });
         answer("6 ahead of 7, the HASH behind what is not right", 0, 6, f ->
             f.commit(0, 2, Forger.join(remove(2), Forger.signs(1, f.m.hash(NOTHING))), null));
+        answer("6 ahead of 7, the HASH behind a REMOVE of no leaf", 0, 6, f ->
+            f.commit(0, 2, Forger.join(remove(9), Forger.signs(1, f.m.hash(NOTHING))), null));
+        answer("6 ahead of 7, the HASH behind an ADD that is not signed", 0, 6, f ->
+            f.commit(0, 2, Forger.join(add(Forger.with(f.pack(9), 3, 8)), Forger.signs(1, f.m.hash(NOTHING))), null));
+        answer("6 ahead of 7, the HASH behind an UPDATE by CONTENT", 0, 6, f -> f.commit(0, 2, Forger.join(
+                Forger.byContent(Forger.update(f.freshUpdate(2, 2))), Forger.signs(1, f.m.hash(NOTHING))), null));
         answer("6 ahead of 7, the HASH ahead of what is not right", 0, 6, f ->
             f.commit(0, 2, Forger.join(Forger.signs(1, f.m.hash(NOTHING)), remove(2)), null));
         answer("7 ahead of 8: a REMOVE of who commits, without a PATH", 0, 7, f -> f.commit(0, 2, remove(2), null));
