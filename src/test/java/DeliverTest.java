@@ -463,6 +463,14 @@ public final class DeliverTest {
         inGroup("nodes above are not asked", f ->
             right("the key of a node above", f, Forger.byContent(Forger.add(
                     f.pack(9, f.m.pub(f.p.forgedName()), f.state(0).tree.nodes.get(3).key))), 5));
+        inGroup("secrets are had of nodes", f -> {
+            right("the key of a node that stays", f, Forger.byContent(Forger.add(
+                    f.pack(9, f.m.pub(f.p.forgedName()), f.state(0).tree.nodes.get(1).key))), 5);
+            E.is("one key of two nodes", f.p.node(0, 8, 0), f.p.node(0, 1, 0));
+            E.is("the secret that it had of a node whose key is the same", f.p.node(0, 1, 5), 1);
+            E.is("none of a leaf that it was not told", f.p.node(0, 8, 5), 0);
+            E.is("its leaf, that node, and two that it was told now", f.p.member(0, 12), 4);
+        });
         inGroup("an update by hash", f -> {
             int update = (int) f.p.propose(1, 2, 0);
             f.p.deliver(update, 0);
